@@ -48,8 +48,6 @@ public final class FlotsamWill {
     private int seen, tornBy;
 
     public FlotsamWill() {
-        seen = 0;
-        tornBy = 0;
     }
 
     // ---- the text, what there is.
@@ -872,8 +870,6 @@ public final class FlotsamWill {
 
         private void rewind() {
             at = 0;
-            start = 0;
-            token = END;
         }
 
         private void take() {
@@ -927,7 +923,6 @@ public final class FlotsamWill {
             told.empty();
             tape.rewind();
             fault = 0;
-            faultAt = 0;
             rowsTold = 0;
             hoursTold = 0;
             phaseTold = false;

@@ -5,6 +5,7 @@ public final class BestTest {
 
     public static void main(String[] args) {
         p22When();
+        p22WhenFirstAndLast();
         p23Aim();
         p24Ways();
         p25Place();
@@ -12,6 +13,7 @@ public final class BestTest {
         p27Fire();
         p28Moon();
         p29Rest();
+        p29RestOfMany();
         p29RestNone();
         p30Luck();
         p30OfEightWinds();
@@ -30,7 +32,7 @@ public final class BestTest {
         CHECK.due("stand", x.stand(0, 1, 4), 0);
         CHECK.due("when, in HOUR 3", x.when(0, 1), 3);
         CHECK.due("stand", x.stand(0, 1, 23), 4);
-        CHECK.due("when, in the last HOUR", x.when(0, 0), 1);
+        CHECK.due("when, he is there in the last HOUR", x.when(0, 0), 1);
         CHECK.due("alter", x.alter(0, 2, 6), 1);
         CHECK.due("phase", x.phase(5), 0);
         CHECK.due("when, too far out", x.when(0, 0), NONE);
@@ -39,6 +41,13 @@ public final class BestTest {
         CHECK.due("when 1 0", x.when(1, 0), BAD);
         CHECK.due("when 0 -1", x.when(0, -1), BAD);
         CHECK.due("when 0 4", x.when(0, 4), BAD);
+    }
+
+    private static void p22WhenFirstAndLast() {
+        FlotsamWill x = CHECK.told("bottle 4 1 20 7;heir 4 0 23 0;phase 3;");
+        CHECK.due("when, in HOUR 0", x.when(0, 0), 0);
+        CHECK.tell(x, "bottle 4 1 20 7;heir 4 23 23 0;heir 4 0 22 0;phase 4;");
+        CHECK.due("when, in HOUR 23", x.when(0, 0), 23);
     }
 
     private static void p23Aim() {
@@ -51,6 +60,13 @@ public final class BestTest {
         CHECK.due("stand", x.stand(0, 0, 0), 4);
         CHECK.due("aim, carried past", x.aim(0, 0), NONE);
         CHECK.due("where it is put in is as it was", x.tub(0, 1) * 10 + x.tub(0, 2), 99);
+        CHECK.due("stand", x.stand(0, 0, 9), 0);
+        CHECK.due("set", x.set(1, 2), 4);
+        CHECK.due("aim at the last PLACE", x.aim(0, 0), 91);
+        CHECK.tell(x, "coop 5 5 3 1;wind 3 1;wind 4 1;wind 5 1;heir 0 5 23 9;heir 0 4 4 9;heir 0 3 3 9;");
+        CHECK.due("aim nearest the shore", x.aim(0, 2), 1);
+        CHECK.due("aim behind that", x.aim(0, 1), 5);
+        CHECK.due("aim farthest out", x.aim(0, 0), 9);
         CHECK.due("aim -1 0", x.aim(-1, 0), BAD);
         CHECK.due("aim 1 0", x.aim(1, 0), BAD);
         CHECK.due("aim 0 -1", x.aim(0, -1), BAD);
@@ -121,6 +137,14 @@ public final class BestTest {
         CHECK.due("alter", x.alter(0, 3, 0), 3);
         CHECK.due("phase", x.phase(3), 0);
         CHECK.due("by HOUR 0", x.fire(0, 0), 2);
+        CHECK.tell(x, "tub 4 3 3 9;tub 4 2 4 9;heir 5 0 23 0;");
+        CHECK.due("one wind for two", x.fire(0, 0), 42);
+        CHECK.due("one wind for two, how much", x.fire(0, 1), 18);
+        // Were there no wind, he had it; but to tell that there is none is not asked.
+        CHECK.tell(x, "coop 1 3 3 9;current 2 3;heir 2 0 23 0;wind 3 4;");
+        CHECK.due("no wind that helps", x.fire(0, 0), NONE);
+        CHECK.due("blow", x.blow(3, 0), 4);
+        CHECK.due("without one he has it", x.has(0, 0), 9);
         CHECK.due("fire -1", x.fire(-1, 0), BAD);
         CHECK.due("fire 1", x.fire(1, 0), BAD);
         CHECK.due("what -1", x.fire(0, -1), BAD);
@@ -165,6 +189,23 @@ public final class BestTest {
         CHECK.due("what 2", x.rest(0, 1, 2), BAD);
     }
 
+    private static void p29RestOfMany() {
+        FlotsamWill x = CHECK.told("bottle 0 1 3 9;heir 5 0 23 0;heir 9 0 23 0;");
+        CHECK.due("at PLACE 0", x.rest(0, 1, 1), 0);
+        CHECK.due("pairs at PLACE 0", x.rest(0, 1, 0), 10);
+        CHECK.due("pairs at PLACE 0 the other way", x.rest(1, 0, 0), 10);
+        CHECK.tell(x, "bottle 0 1 3 5;bottle 9 1 3 5;heir 5 0 23 0;heir 5 0 23 0;");
+        CHECK.due("one each", x.rest(0, 1, 0), 2);
+        CHECK.due("the first of these", x.rest(0, 1, 1), 9);
+        CHECK.tell(x, "bottle 0 1 3 5;bottle 9 1 3 5;bottle 0 1 4 1;bottle 9 1 5 1;"
+            + "heir 5 0 23 0;heir 5 0 23 0;heir 5 3 23 9;heir 5 0 2 9;");
+        CHECK.due("one each, with four tubs", x.rest(1, 0, 0), 2);
+        CHECK.due("the third reaches all, and is the nearest nowhere", x.rest(2, 3, 0), 100);
+        CHECK.due("place with four tubs", x.place(0, 0), 0);
+        CHECK.due("hook with four tubs", x.hook(1, 6), 4);
+        CHECK.due("hook of the third", x.hook(2, 12), 5);
+    }
+
     private static void p29RestNone() {
         // Heir 0 wants to stand where heir 1 stands, heir 1 wants to stand where heir 0 does not.
         FlotsamWill x = CHECK.told("bottle 7 1 3 8;bottle 8 1 3 3;heir 0 4 9 1;heir 0 4 9 0;");
@@ -184,6 +225,7 @@ public final class BestTest {
     private static void p30Luck() {
         FlotsamWill x = CHECK.told("tub 4 2 3 9;heir 4 0 3 0;wind 3 1;wind 20 2;");
         lucky(x, 3, 0, 0, 7, 10);
+        lucky(x, 4, 0, 0, 3, 5);
         lucky(x, 5, 0, 0, 1, 2);
         lucky(x, 0, 0, 0, 1, 1);
         lucky(x, 10, 0, 0, 0, 1);

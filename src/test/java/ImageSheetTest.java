@@ -6,6 +6,7 @@ public final class ImageSheetTest {
     public static void main(String[] args) {
         p38Keep();
         p39Back();
+        p39BackOfAll();
         p40Sheet();
         p41Lay();
         p42Read();
@@ -66,6 +67,21 @@ public final class ImageSheetTest {
         CHECK.due("back again", x.back(0), 12);
     }
 
+    private static void p39BackOfAll() {
+        FlotsamWill x = CHECK.told("tub 1 1 1 1;tub 2 2 2 2;tub 3 3 3 3;tub 4 4 4 4;"
+            + "heir 1 1 1 1;heir 2 2 2 2;heir 3 3 3 3;heir 4 4 4 4;");
+        CHECK.due("keep", x.keep(1), 0);
+        for (int n = 0; n < 4; n++) {
+            for (int what = 1; what <= 4; what++) CHECK.due("alter", x.alter(n, what, 9), n + 1);
+            for (int what = 3; what >= 0; what--) CHECK.due("stand", x.stand(n, what, what == 1 ? 0 : 9), n + 1);
+        }
+        CHECK.due("back", x.back(1), 10);
+        for (int n = 0; n < 4; n++) {
+            for (int what = 1; what <= 4; what++) CHECK.due("tub", x.tub(n, what), n + 1);
+            for (int what = 0; what <= 3; what++) CHECK.due("heir", x.heir(n, what), n + 1);
+        }
+    }
+
     private static void p40Sheet() {
         FlotsamWill x = new FlotsamWill();
         CHECK.due("sheet -1", x.sheet(-1, 0, 1), BAD);
@@ -90,6 +106,10 @@ public final class ImageSheetTest {
         CHECK.due("read", x.read(0, 2, 0, 1), 1);
         CHECK.due("a new row", x.sheet(0, 2, 40), 1);
         CHECK.due("its cells are 0, and Y 0 is refused", x.read(0, 2, 0, 1), -20);
+        CHECK.due("Y", x.lay(0, 1, 5), 1);
+        CHECK.due("with its Y it is not", x.read(0, 2, 0, 1), 1);
+        CHECK.due("X is 0", x.tub(1, 1), 0);
+        CHECK.due("HOUR is 0", x.tub(1, 3), 0);
         CHECK.due("sheet 3", x.sheet(3, 1, 1), 1);
         CHECK.due("sheet 3 has a cell", x.lay(3, 0, 1), 1);
         CHECK.due("sheet 2 has nothing", x.lay(2, 0, 1), -11);

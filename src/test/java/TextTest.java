@@ -9,6 +9,7 @@ public final class TextTest {
         p1NewObject();
         p2Feed();
         p3End();
+        p4FullTape();
         p4TextTellsAll();
         p4TextThatFails();
         p5Faults();
@@ -70,6 +71,30 @@ public final class TextTest {
         CHECK.due("feed behind it", x.feed(' '), 9);
         CHECK.due("text", x.text(), 1);
         CHECK.due("phase", x.rule(2), 3);
+        CHECK.feed(x, "phase 5555;");
+        CHECK.due("end within a number", x.end(7), 11);
+        CHECK.due("bytes that are gone are not read", x.text(), -17);
+        CHECK.feed(x, "        ");
+        CHECK.due("end within blanks", x.end(3), 8);
+        CHECK.due("blanks that are gone are not read", x.text(), 0);
+    }
+
+    private static void p4FullTape() {
+        FlotsamWill x = new FlotsamWill();
+        CHECK.feed(x, "phase 4;");
+        for (int n = 9; n <= 160; n++) CHECK.due("feed", x.feed(' '), n);
+        CHECK.due("blanks to the end", x.text(), 1);
+        CHECK.due("phase", x.rule(2), 4);
+        for (int n = 1; n <= 160; n++) CHECK.due("feed", x.feed('t'), n);
+        CHECK.due("a name to the end", x.text(), -10);
+        CHECK.due("begins no line", x.fault(), 2);
+        for (int n = 1; n <= 160; n++) CHECK.due("feed", x.feed('1'), n);
+        CHECK.due("a number to the end", x.text(), -10);
+        CHECK.due("is too long", x.fault(), 1);
+        for (int n = 1; n <= 155; n++) CHECK.due("feed", x.feed(' '), n);
+        CHECK.feed(x, "phase");
+        CHECK.due("a line that is cut off", x.text(), -170);
+        CHECK.due("phase", x.rule(2), 4);
     }
 
     private static void p4TextTellsAll() {
@@ -90,6 +115,13 @@ public final class TextTest {
         CHECK.due("image 0 is gone", x.back(0), FlotsamWill.STATE);
         CHECK.due("image 1 is gone", x.back(1), FlotsamWill.STATE);
         CHECK.due("sheets stay", x.count(3), 7);
+        CHECK.tell(x, "current 3 1;wind 4 2;wind 0 1;phase 2;heir 1 2 3 4;heir 1 2 3 4;");
+        CHECK.due("what another text told may be told again", x.current(3), 1);
+        CHECK.due("winds", x.rule(4), 2);
+        CHECK.due("hooks", x.count(4), 8);
+        CHECK.tell(x, "heir 1 2 3 4;");
+        CHECK.due("a wind of HOUR 0 that no line tells", x.wind(0), 0);
+        CHECK.due("hooks of one", x.count(4), 4);
         CHECK.tell(x, "");
         CHECK.due("no heirs by an empty text", x.rule(1), 0);
     }
@@ -137,6 +169,10 @@ public final class TextTest {
         faulty("boat 1 @", 0, 2);
         faulty("tubs 1 1 1 1;", 0, 2);
         faulty("tu 1 1 1 1;", 0, 2);
+        faulty("bub 1 1 1 1;", 0, 2);
+        faulty("tubz 1 1 1 1;", 0, 2);
+        faulty("zephyr;", 0, 2);
+        faulty("wint 1 1;", 0, 2);
         faulty("tub tub", 4, 2);
         faulty("tub 1 1 1;", 9, 2);
         faulty("tub 1 1 1 1 1;", 12, 2);
@@ -187,8 +223,8 @@ public final class TextTest {
         for (int what = 0; what <= 4; what++) CHECK.due("rule " + what, x.rule(what), want[what]);
         CHECK.due("rule -1", x.rule(-1), FlotsamWill.BAD);
         CHECK.due("rule 5", x.rule(5), FlotsamWill.BAD);
-        CHECK.tell(x, "wind 3 0;wind 4 2;");
-        CHECK.due("an HOUR told to have none has no WIND", x.rule(4), 1);
+        CHECK.tell(x, "wind 3 0;wind 4 2;wind 0 3;wind 23 4;");
+        CHECK.due("an HOUR told to have none has no WIND", x.rule(4), 3);
     }
 
     private static void p7Tub() {
