@@ -280,6 +280,9 @@ public final class BestTest {
         CHECK.due("heir 2", x.mean(1, 2, 0), BAD);
         CHECK.due("what -1", x.mean(1, 0, -1), BAD);
         CHECK.due("what 2", x.mean(1, 0, 2), BAD);
+        CHECK.tell(x, "tub 4 1 3 1;heir 4 0 23 0;wind 3 2;");
+        fraction("mean of one wind", x.mean(4, 0, 0), x.mean(4, 0, 1), 2, 5);
+        fraction("mean of one wind, by odds", x.mean(7, 0, 0), x.mean(7, 0, 1), 7, 10);
         CHECK.tell(x, "bottle 4 1 3 7;heir 4 0 23 0;");
         fraction("mean of no winds", x.mean(5, 0, 0), x.mean(5, 0, 1), 7, 1);
     }
