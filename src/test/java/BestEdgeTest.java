@@ -238,6 +238,11 @@ public final class BestEdgeTest {
         asks("tell tub 4 4 3 9;heir 4 0 4 0;", "fire 0 1", NONE);
         asks("tell tub 4 3 3 9;heir 4 0 4 0;", "fire 0 0", 31);
         asks("tell bottle 4 3 3 9;heir 4 0 4 0;", "fire 0 0", NONE);
+        asks("tell tub 4 3 3 9;heir 2 0 23 0;", "fire 0 0", NONE);
+        asks("tell tub 4 3 3 9;heir 3 0 23 0;", "fire 0 0", 34);
+        // WIND 0 is none that is told, though he would have more by it.
+        asks("tell piano 2 1 3 9;current 2 3;heir 2 0 23 0;wind 3 4;", "fire 0 0", 31);
+        asks("tell coop 1 3 3 9;current 2 3;heir 2 0 23 0;wind 3 4;", "fire 0 0", NONE);
     }
 
     /** "of several the least (what 0), how much (1)". */

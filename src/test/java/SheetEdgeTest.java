@@ -160,6 +160,8 @@ public final class SheetEdgeTest {
             "sheet 0 2 40 = 1", "lay 0 38 1 = 1", "read 0 2 37 1 = 1", "tub 1 1 = 0", "tub 1 3 = 0");
         EDGES.script("sheet 0 0 0 = 1", "count 3 = 0", "lay 0 0 1 = -12", "read 0 0 0 1 = 0", "torn = 2", "sheet 0 0 1 = 1",
             "lay 0 0 1 = 1", "lay 0 1 1 = -12");
+        EDGES.script("sheet 0 1 3 = 1", "lay 0 0 9 = 1", "lay 0 1 9 = 1", "lay 0 2 9 = 1", "sheet 0 1 3 = 1", "lay 0 1 1 = 1",
+            "read 0 1 0 1 = 1", "tub 0 1 = 0", "tub 0 3 = 0");
         for (int n = 0; n <= 40; n++) {
             EDGES.script("sheet 0 1 " + n + " = 1", "count 3 = " + n, "lay 0 " + (n - 1) + " 1 = " + (n == 0 ? -12 : 1),
                 "lay 0 " + n + " 1 = -12");

@@ -27,6 +27,7 @@ public final class TextEdgeTest {
         p3EndKeepsTheFirst();
         p4TextOfNothing();
         p4TextTellsAll();
+        p4TextTellsNot();
         p4TextThatFails();
         p4Lines();
         p4Places();
@@ -156,6 +157,23 @@ public final class TextEdgeTest {
             String[] calls = Edges.and(Edges.BUSY, "end 0", "tell " + text);
             toldAll(Sight.whole(calls), Sight.whole("tell " + text));
         }
+    }
+
+    /** "what no line tells is as at first": each ROW, each HOUR that the text before told, or a call. */
+    private static void p4TextTellsNot() {
+        for (int row = 0; row <= 9; row++) {
+            EDGES.script("tell current " + row + " 4; = 1", "current " + row + " = 4", "tell phase 0; = 1",
+                "current " + row + " = 2", "set " + row + " 0 = 2", "text = 0", "current " + row + " = 2");
+        }
+        for (int hour = 0; hour <= 23; hour++) {
+            EDGES.script("tell wind " + hour + " 4; = 1", "wind " + hour + " = 4", "tell phase 0; = 1",
+                "wind " + hour + " = 0", "blow " + hour + " 1 = 0", "text = 0", "wind " + hour + " = 0");
+        }
+        EDGES.script("tell phase 5; = 1", "rule 2 = 5", "text = 0", "rule 2 = 0", "tell " + Edges.CROWD + " = 8",
+            "text = 0", "rule 0 = 0", "rule 1 = 0", "tub 0 0 = -1", "heir 0 0 = -1");
+        // What a text told that failed is not told by the next one either.
+        EDGES.script("tell wind 0 1;current 0 1;phase 5;tub 1 1 1 1;heir 1 1 1 1;@ = -64", "tell wind 1 1; = 1",
+            "wind 0 = 0", "current 0 = 2", "rule 2 = 0", "rule 0 = 0", "rule 1 = 0");
     }
 
     /** "that which was told stays"; "THE TAPE (empty then, by a FAULT, too)"; and it is the FAULT of the latest. */
