@@ -30,8 +30,8 @@ public final class FlotsamWill {
     private static final int MOST_WINDY = 8, ODDS = 10;
     private static final int NULL = 1, INDEX = 2, CAST = 3, SIZE = 4;
 
-    private final Tape tape = new Tape();
-    private final Reader reader = new Reader(tape);
+    private final Reader reader = new Reader();
+    private final Tape tape = reader.tape;
     private final Sea now = new Sea();
     private final Sea trial = new Sea();
     private final Sea[] images = {new Sea(), new Sea()};
@@ -907,17 +907,13 @@ public final class FlotsamWill {
         }
     }
 
-    /** Reads a tape line by line into a sea of its own, until its first fault. */
+    /** Reads its tape line by line into a sea of its own, until its first fault. */
     private static final class Reader {
-        private final Tape tape;
+        private final Tape tape = new Tape();
         private final Sea told = new Sea();
         private int fault, faultAt;
         private int rowsTold, hoursTold;
         private boolean phaseTold;
-
-        private Reader(Tape tape) {
-            this.tape = tape;
-        }
 
         private int readAll() {
             told.empty();

@@ -94,6 +94,10 @@ public final class FaceTest {
             for (Method method : one.getDeclaredMethods()) {
                 due(method + " takes seven at most", method.getParameterCount() <= 7);
             }
+            // So none can be handed a part of the object that makes it.
+            for (Constructor<?> maker : one.getDeclaredConstructors()) {
+                due(maker + " is given nothing", maker.getParameterCount() == 0);
+            }
         }
     }
 
